@@ -440,6 +440,7 @@ public final class PromiseTest {
         x.weighs(3, 1);
         due("key(), no longer at rest", x.key(), NONE);
         due("key() of two", told("b 4 1 9; b 2 3 1; b 2 1 9; b 6 1 9;").key(), 2);
+        due("key(): what bears a bridge can't be lifted", told("b 0 1 1; b 4 1 1; b 0 3 9;").key(), NONE);
         due("key() of a tower", told("b 2 1 5; b 2 1 5;").key(), NONE);
         due("key(), not at rest", told("b 3 1 1; b 4 2 1;").key(), NONE);
         due("count(0)", x.count(0), 4);
@@ -451,6 +452,7 @@ public final class PromiseTest {
         due("hold() at rest", told("b 2 1 5; b 2 1 5;").hold(), 0);
         due("hold() of the upper one", told("b 3 1 1; b 4 2 1;").hold(), 2);
         due("hold() of the middle one", told("b 3 1 1; b 4 1 1; b 5 1 1;").hold(), 2);
+        due("hold(): one rather than two of lower numbers", told("b 4 1 9; b 1 2 5; b 5 2 5; b 4 1 1;").hold(), 8);
         due("hold() of two", told("b 0 1 1; b 1 3 9; b 8 1 1; b 9 3 9;").hold(), 10);
     }
 
