@@ -50,6 +50,7 @@ public final class LyingTest {
         RestingBlocks flat = check.told("b 0 1 1;b 2 1 1;b 4 1 1;b 6 1 1;");
         check.due("count(3)", flat.count(3), 0);
         check.due("count(1)", flat.count(1), 8);
+        check.due("count(3) of one", check.told("b 3 1 1;").count(3), 0);
         check.sentence("LEVEL: else one more than the greatest LEVEL of those that are ahead and that it OVERLAPS");
         RestingBlocks tower = check.told("b 3 1 1;b 3 1 1;b 3 1 1;b 3 1 1;");
         check.due("count(3)", tower.count(3), 3);
@@ -130,6 +131,11 @@ public final class LyingTest {
         check.sentence("DROPPED: a BLOCK comes to the end of the row");
         RestingBlocks y = check.told("b 0 1 1;b 4 1 2;");
         y.lifts(0);
+        check.due("drops(4, 1, 3)", y.drops(4, 1, 3), 1);
+        check.due("blocks", Check.blocks(y), "4 1 2 0 0 ; 4 1 3 0 0 ;");
+        check.sentence("a LOAD (0 at first) at a SPOT (0 at first), where a LIFTED BLOCK had others");
+        y.loads(1, 2, 20);
+        check.due("lifts(1)", y.lifts(1), 1);
         check.due("drops(4, 1, 3)", y.drops(4, 1, 3), 1);
         check.due("blocks", Check.blocks(y), "4 1 2 0 0 ; 4 1 3 0 0 ;");
     }

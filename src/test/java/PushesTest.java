@@ -108,6 +108,11 @@ public final class PushesTest {
         check.due("bears(1, 0)", Check.bears(far, 1, 0), 118, 1, ENDLESS, ENDLESS);
         check.due("bears(1, 1)", Check.bears(far, 1, 1), NONE, NONE, NONE, NONE);
         check.due("bears(0, 0)", Check.bears(far, 0, 0), NONE, NONE, NONE, NONE);
+        check.sentence("MAY BEAR: of the last of four");
+        RestingBlocks four = check.told("b 8 1 1;b 0 1 1;b 4 1 1;b 2 3 2;l 3 6 4;");
+        check.due("bears(3, 0)", Check.bears(four, 3, 0), 3, 2, 9, 1);
+        check.due("bears(3, 4)", Check.bears(four, 3, 4), NONE, NONE, NONE, NONE);
+        check.due("bears(0, 0), while another one tilts", Check.bears(four, 0, 0), NONE, NONE, NONE, NONE);
     }
 
     private static void bearsNothing() {
@@ -182,6 +187,16 @@ public final class PushesTest {
         check.due("of two of which either is enough", check.told("b 2 1 5;b 3 3 1;l 1 0 2;b 2 1 2;").key(), NONE);
         check.due("of one on which another LIES: that other", check.told("b 2 1 5;b 3 2 2;b 2 1 1;b 2 1 1;").key(), 3);
         check.due("of one that is enough with half of it", check.told("b 2 1 5;b 3 2 2;b 2 1 2;b 2 1 1;").key(), NONE);
+        check.due("none of those on which one LIES", check.told("b 8 1 1;b 2 1 1;b 1 2 9;b 3 2 1;").key(), NONE);
+        RestingBlocks x = new RestingBlocks();
+        x.drops(2, 1, 5);
+        x.drops(3, 2, 2);
+        x.drops(2, 1, 2);
+        check.due("of what was dropped", x.key(), 2);
+        x.weighs(1, 1);
+        check.due("of what was weighed", x.key(), 2);
+        x.loads(1, 0, 1);
+        check.due("of what was loaded", x.key(), NONE);
         check.sentence("KEY: all being at REST now; NONE (also if it does not REST)");
         check.due("not at REST", check.told("b 2 1 5;b 3 2 2;b 2 1 1;").key(), NONE);
         check.due("not at REST elsewhere", check.told("b 2 1 5;b 3 2 2;b 2 1 2;b 3 3 1;").key(), NONE);
