@@ -574,7 +574,7 @@ public final class RestingBlocks {
 
     /** Where the blocks of a pile lie: levels, what lies on what, contacts. */
     private static final class Layout {
-        /** Three blocks on the ground and one on all three, or two on the ground and two on both. */
+        /** Three blocks on the ground and one on all three; no other row of four has as many. */
         static final int MOST_CONTACTS = 12;
 
         private final int[] lefts = new int[MOST_BLOCKS];

@@ -12,6 +12,7 @@ public final class LyingTest {
         lifted();
         liftedUnderWhatDoesNotLie();
         sums();
+        everyRow();
         check.end();
     }
 
@@ -166,5 +167,66 @@ public final class LyingTest {
         check.due("count(2)", x.count(2), 33);
         x.lifts(0);
         check.due("count(2): a lifted LOAD is gone", x.count(2), 4);
+    }
+
+    /** Every row of four blocks that there is (of one weight): levels, what lies on what, contacts. */
+    private static void everyRow() {
+        check.sentence("LEVEL, LIES, CONTACTS of every row of four BLOCKS");
+        int shapes = 30;
+        int most = 0;
+        // The first row that lies otherwise ends it: there may be half a million of them.
+        for (int row = 0; row < shapes * shapes * shapes * shapes && most >= 0; row++) {
+            int[] lefts = new int[4];
+            int[] rights = new int[4];
+            for (int b = 0, rest = row; b < 4; b++, rest /= shapes) {
+                lefts[b] = rest % 10;
+                rights[b] = lefts[b] + 2 * (1 + rest % shapes / 10);
+            }
+            int contacts = oneRow(lefts, rights);
+            most = contacts < 0 ? -1 : Math.max(most, contacts);
+        }
+        check.due("the most contacts", most, 12);
+    }
+
+    /** How many contacts it has; -1, if it lies otherwise than it must. */
+    private static int oneRow(int[] lefts, int[] rights) {
+        RestingBlocks x = new RestingBlocks();
+        int[] levels = new int[4];
+        int contacts = 0;
+        boolean good = true;
+        for (int b = 0; b < 4; b++) {
+            for (int a = 0; a < b; a++) {
+                levels[b] = common(lefts, rights, a, b) > 0 ? Math.max(levels[b], levels[a] + 1) : levels[b];
+            }
+            good &= x.drops(lefts[b], (rights[b] - lefts[b]) / 2, 1) == levels[b];
+            int under = 0;
+            for (int a = 0; a < b; a++) {
+                if (common(lefts, rights, a, b) > 0 && levels[a] + 1 == levels[b]) {
+                    under |= 1 << a;
+                    good &= pair(x, contacts, b, a, Math.max(lefts[a], lefts[b]), Math.min(rights[a], rights[b]));
+                    good &= (x.block(a, 7) >> b & 1) == 1;
+                    contacts += 2;
+                }
+            }
+            if (levels[b] == 0) {
+                good &= pair(x, contacts, b, Check.NONE, lefts[b], rights[b]);
+                contacts += 2;
+            }
+            good &= x.block(b, 6) == under && x.block(b, 7) == 0 && x.count(1) == contacts;
+        }
+        if (!good) {
+            check.fail("a row that lies otherwise: " + Check.blocks(x));
+        }
+        return good ? contacts : -1;
+    }
+
+    /** How long what two spans have in common is; not above 0, if it is a point or nothing. */
+    private static int common(int[] lefts, int[] rights, int a, int b) {
+        return Math.min(rights[a], rights[b]) - Math.max(lefts[a], lefts[b]);
+    }
+
+    private static boolean pair(RestingBlocks x, int c, int upper, int lower, int left, int right) {
+        return x.contact(c, 0) == upper && x.contact(c, 1) == lower && x.contact(c, 2) == left
+            && x.contact(c + 1, 0) == upper && x.contact(c + 1, 1) == lower && x.contact(c + 1, 2) == right;
     }
 }

@@ -201,6 +201,20 @@ public final class TextTest {
         fault("b 1 1 1;l 1 3 21;", 10);
         fault("7 x", 0);
         fault("; b 1 1 1", 0);
+        check.sentence("the first TOKEN that can't stand there, ahead of what is no TOKEN at all");
+        fault("b 10 x", 2);
+        fault("b 1 4 x;", 4);
+        fault("b 1 1 10 100;", 6);
+        fault("l 0 x", 2);
+        fault("; x", 0);
+        fault("b 1 1 1;b 1 1 1;b 1 1 1;b 1 1 1;b 01", 32);
+        fault("b 1 1 1;l 0 3 021;", 12);
+        fault("b b x", 2);
+        check.sentence("what is no TOKEN at all, ahead of the first TOKEN that can't stand there");
+        fault("b x 10", 2);
+        fault("b 100 4 0;", 2);
+        fault("b 01 b", 2);
+        fault("x ;", 0);
     }
 
     private static void toldAgain() {
